@@ -108,9 +108,8 @@ public final class PromisesTest {
         due("first keel", x.set(2, 5), 5);
         due("first gap", x.set(3, 10), 10);
         due("first slope", x.set(4, 40), 40);
-        TallShips two = easy(1);
+        easy(1).put(0, 0);
         due("another object is not touched", x.count(0) + x.count(1), 0);
-        two.put(0, 0);
         due("first tugs are 2", waitOfNeed(2), 0);
         due("first tugs are not 3", waitOfNeed(3), NONE);
     }
