@@ -4,7 +4,7 @@ import java.util.Random;
 
 /**
  * Long runs of chosen-by-seed calls on the class and on a model that tries
- * everything one by one; every answer of the two must be alike.
+ * berths and hours one by one; every answer of the two must be alike.
  */
 public final class ModelTest {
     private static final int NONE = -1;
