@@ -304,18 +304,19 @@ public final class TallShips {
 
     // ---- ways in
 
-    private boolean canCross(int ship, int hour) {
+    private boolean canCross(int ship, int level) {
         int needed = fleet.draught[ship] + river.settings[KEEL];
-        return river.settings[BAR] + river.levelAt(hour) >= needed;
+        return river.settings[BAR] + level >= needed;
     }
 
-    private boolean canPass(int ship, int hour) {
-        int top = fleet.height[ship] + river.levelAt(hour) + river.settings[KEEL];
-        return canCross(ship, hour) && top <= river.settings[BRIDGE];
+    private boolean clearsBridge(int ship, int level) {
+        int top = fleet.height[ship] + level + river.settings[KEEL];
+        return top <= river.settings[BRIDGE];
     }
 
     private boolean hasWayIn(int ship, int hour, boolean above) {
-        return above ? canPass(ship, hour) : canCross(ship, hour);
+        int level = river.levelAt(hour);
+        return canCross(ship, level) && (!above || clearsBridge(ship, level));
     }
 
     private int firstWayIn(int ship, int from, boolean above) {
