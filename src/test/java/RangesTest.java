@@ -35,6 +35,7 @@ public final class RangesTest {
         quayDeck();
         fourQuays();
         foulShips();
+        foulEitherWay();
         arrivesHours();
         arrivesShips();
         countWhats();
@@ -393,6 +394,32 @@ public final class RangesTest {
         for (int ship = 0; ship < 3; ship++) {
             Due.same("foul one alone", answer(alone, ship), 0);
             Due.same("foul one alone changes nothing", readAfter(alone, ship), BEFORE);
+        }
+    }
+
+    /** "Two SHIPS FOUL, or not": each two, whichever is named first. */
+    private static void foulEitherWay() {
+        for (int a = 0; a < 7; a++) {
+            for (int b = 0; b < 7; b++) {
+                if (a != b) {
+                    TallShips x = Scenes.easy(7);
+                    x.put(a, 0);
+                    x.put(b, 0);
+                    int due = 20 + Math.min(a, b);
+                    Due.same("foul", x.foul(a, b, true), true);
+                    Due.same("foul " + a + ", " + b, x.wrong(), due);
+                    Due.same("not", x.foul(a, b, false), true);
+                    Due.same("not " + a + ", " + b, x.wrong(), 0);
+                    Due.same("not again", x.foul(a, b, false), true);
+                    Due.same("not again " + a + ", " + b, x.wrong(), 0);
+                    Due.same("foul anew", x.foul(a, b, true), true);
+                    Due.same("foul anew, the other way", x.foul(b, a, true), true);
+                    Due.same("foul anew " + a + ", " + b, x.wrong(), due);
+                    Due.same("not, the other way", x.foul(b, a, false), true);
+                    Due.same("not, the other way " + a + ", " + b, x.wrong(), 0);
+                    Due.same("both at best", x.best(), 7);
+                }
+            }
         }
     }
 

@@ -29,6 +29,8 @@ public final class TermsTest {
         bestIsLessQuay();
         noneIsGreaterThanAll();
         nearestIsMostShips();
+        mostShipsHoweverManyMove();
+        fewestMovedWhateverTheShow();
         nearestIsFewestMoved();
         nearestIsThenGreatestShow();
         nearestIsThenLessQuay();
@@ -128,6 +130,9 @@ public final class TermsTest {
             Due.same("greatest level, place " + place, x.count(5), 6);
             x.arrives(0, 119);
             Due.same("aground though but one hour is left, place " + place, x.may(0, 0), 1);
+            x.tide(place, 7);
+            Due.same("least level of the others, place " + place, x.count(4), 6);
+            Due.same("greatest level there, place " + place, x.count(5), 7);
         }
     }
 
@@ -534,6 +539,39 @@ public final class TermsTest {
         y.set(0, 0);
         Due.same("seven to none", y.mend(), 7);
         Due.berths("seven to none", y, NONE, NONE, NONE, NONE, NONE, NONE, NONE);
+    }
+
+    /** One ship more at a quay, though all must move for it. */
+    private static void mostShipsHoweverManyMove() {
+        TallShips x = new TallShips();
+        x.quay(1200, 200, false, 10, 0);
+        x.quay(1199, 200, false, 0, 0);
+        for (int i = 0; i < 6; i++) {
+            x.ship(100, 10, 10, 100, 0, 0, 1);
+            x.put(i, 0);
+        }
+        x.ship(1200, 10, 10, 0, 0, 0, 1);
+        Due.same("all move for one more", x.mend(), 7);
+        Due.berths("all move for one more", x, 1, 1, 1, 1, 1, 1, 0);
+        Due.same("all move for one more: show", x.count(3), 0);
+    }
+
+    /** One ship fewer moved, though nearly all the show is lost by it. */
+    private static void fewestMovedWhateverTheShow() {
+        TallShips x = new TallShips();
+        x.quay(1200, 200, false, 10, 0);
+        x.quay(4000, 200, false, 0, 0);
+        x.ship(1200, 10, 10, 0, 0, 0, 1);
+        x.put(0, 0);
+        for (int i = 1; i < 7; i++) {
+            x.ship(100, 10, 10, 100, 0, 0, 1);
+        }
+        Due.same("the first stays in the others' way", x.mend(), 6);
+        Due.berths("the first stays in the others' way", x, 0, 1, 1, 1, 1, 1, 1);
+        Due.same("all that is lost by it", x.count(3), 0);
+        Due.same("best lets it go", x.best(), 7);
+        Due.berths("best lets it go", x, 1, 0, 0, 0, 0, 0, 0);
+        Due.same("what is won by it", x.count(3), 6000);
     }
 
     /** "of equal ones the fewest SHIPS that are elsewhere than now (to none, from none too)" */
