@@ -1,5 +1,3 @@
-import java.util.Arrays;
-import java.util.NoSuchElementException;
 import java.util.Random;
 
 /**
@@ -7,627 +5,156 @@ import java.util.Random;
  * berths and hours one by one; every answer of the two must be alike.
  */
 public final class ModelTest {
-    private static final int NONE = -1;
-    private static final int THROWN = -77777;
-    private static final int RUNS = 600;
+    private static final int RUNS = 1000;
     private static final int CALLS = 120;
+    private static final int ENOUGH_WRONG = 20;
 
-    private static int wrong = 0;
+    private final Random random;
+    private final Twin twin;
+    /** Many small ships, much alike, at short quays: so that few berths and hours are better than others. */
+    private final boolean crowded;
+
+    private ModelTest(int run) {
+        crowded = run % 2 == 1;
+        random = new Random(1000L + run);
+        twin = new Twin("run " + run);
+    }
 
     public static void main(String[] args) {
-        for (int run = 0; run < RUNS && wrong < 20; run++) {
-            new Run(run).go();
+        for (int run = 0; run < RUNS && Due.wrong() < ENOUGH_WRONG; run++) {
+            new ModelTest(run).go();
         }
-        System.out.println(wrong == 0 ? "model: all alike" : "model: " + wrong + " not alike");
-        if (wrong != 0) {
-            System.exit(1);
+        Due.end("model");
+    }
+
+    private void go() {
+        fillIn();
+        for (int call = 0; call < CALLS; call++) {
+            step();
+            twin.askAll();
         }
     }
 
-    private static final class Run {
-        final int number;
-        final Random random;
-        final TallShips real = new TallShips();
-        final Model model = new Model();
+    private int pick(int least, int most) {
+        return least + random.nextInt(most - least + 1);
+    }
 
-        Run(int number) {
-            this.number = number;
-            this.random = new Random(1000L + number);
+    /** Mostly within the limits, at times at or beyond them. */
+    private int some(int least, int most) {
+        switch (random.nextInt(40)) {
+            case 0:
+                return least - 1;
+            case 1:
+                return most + 1;
+            case 2:
+                return least;
+            case 3:
+                return most;
+            case 4:
+                return random.nextBoolean() ? Integer.MAX_VALUE : Integer.MIN_VALUE;
+            default:
+                return pick(least, most);
         }
+    }
 
-        void go() {
-            fillIn();
-            for (int call = 0; call < CALLS; call++) {
-                step();
-            }
+    private void fillIn() {
+        int swing = crowded ? pick(0, 20) : pick(0, 80);
+        for (int place = 0; place < 12; place++) {
+            twin.tide(place, pick(0, swing));
         }
-
-        int pick(int least, int most) {
-            return least + random.nextInt(most - least + 1);
+        int ships = pick(crowded ? 5 : 0, 7);
+        for (int i = 0; i < ships; i++) {
+            addShip();
         }
-
-        /** Mostly within the limits, at times at or beyond them. */
-        int some(int least, int most) {
-            switch (random.nextInt(40)) {
-                case 0:
-                    return least - 1;
-                case 1:
-                    return most + 1;
-                case 2:
-                    return least;
-                case 3:
-                    return most;
-                case 4:
-                    return random.nextBoolean() ? Integer.MAX_VALUE : Integer.MIN_VALUE;
-                default:
-                    return pick(least, most);
-            }
+        int quays = pick(crowded ? 2 : 0, 4);
+        for (int i = 0; i < quays; i++) {
+            addQuay();
         }
+    }
 
-        void same(String what, int got, int want) {
-            if (got != want) {
-                wrong++;
-                System.out.println("run " + number + ": " + what + " answered " + got + ", the model " + want);
-            }
+    private void addShip() {
+        if (crowded) {
+            twin.ship(10 * some(1, 4), some(20, 45), some(470, 500), some(0, 2), some(0, 3), some(0, 4), some(1, 3));
+        } else {
+            twin.ship(some(1, random.nextBoolean() ? 300 : 1200), some(1, pick(20, 120)), some(1, 700),
+                    some(0, random.nextBoolean() ? 3 : 100), some(0, 3),
+                    some(0, random.nextBoolean() ? 10 : 119), some(1, 60));
         }
+    }
 
-        void same(String what, boolean got, boolean want) {
-            same(what, got ? 1 : 0, want ? 1 : 0);
+    private void addQuay() {
+        int above = random.nextInt(3) == 0 ? 1 : 0;
+        if (crowded) {
+            twin.quay(10 * some(3, 15), some(30, 60), above, some(0, 2), some(0, 120));
+        } else {
+            twin.quay(some(1, random.nextBoolean() ? 1000 : 4000), some(1, 200), above,
+                    some(0, random.nextBoolean() ? 1 : 10), some(0, 120));
         }
+    }
 
-        void fillIn() {
-            int swing = pick(0, 80);
-            for (int place = 0; place < 12; place++) {
-                int level = pick(0, swing);
-                same("tide", real.tide(place, level), model.tide(place, level));
-            }
-            int ships = pick(0, 7);
-            for (int i = 0; i < ships; i++) {
+    private int anyShip() {
+        return random.nextInt(12) == 0 ? some(0, 7) : pick(0, Math.max(0, twin.model.ships - 1));
+    }
+
+    private int anyQuay() {
+        return random.nextInt(8) == 0 ? some(-1, 4) : pick(0, Math.max(0, twin.model.quays - 1));
+    }
+
+    /** One call, the ones that find most chosen most often. */
+    private void step() {
+        switch (random.nextInt(24)) {
+            case 0:
                 addShip();
-            }
-            int quays = pick(0, 4);
-            for (int i = 0; i < quays; i++) {
+                break;
+            case 1:
                 addQuay();
-            }
-        }
-
-        void addShip() {
-            int[] s = {some(1, random.nextBoolean() ? 300 : 1200), some(1, pick(20, 120)), some(1, 700),
-                some(0, random.nextBoolean() ? 3 : 100), some(0, 3),
-                some(0, random.nextBoolean() ? 10 : 119), some(1, 60)};
-            same("ship", real.ship(s[0], s[1], s[2], s[3], s[4], s[5], s[6]), model.ship(s));
-        }
-
-        void addQuay() {
-            int[] q = {some(1, random.nextBoolean() ? 1000 : 4000), some(1, 200), random.nextInt(3) == 0 ? 1 : 0,
-                some(0, random.nextBoolean() ? 1 : 10), some(0, 120)};
-            same("quay", real.quay(q[0], q[1], q[2] == 1, q[3], q[4]), model.quay(q));
-        }
-
-        int anyShip() {
-            return random.nextInt(12) == 0 ? some(0, 7) : pick(0, Math.max(0, model.ships - 1));
-        }
-
-        int anyQuay() {
-            return random.nextInt(8) == 0 ? some(-1, 4) : pick(0, Math.max(0, model.quays - 1));
-        }
-
-        void step() {
-            switch (random.nextInt(24)) {
-                case 0:
-                    addShip();
-                    break;
-                case 1:
-                    addQuay();
-                    break;
-                case 2:
-                    stepTide();
-                    break;
-                case 3:
-                    stepSet();
-                    break;
-                case 4:
-                    stepTugs();
-                    break;
-                case 5:
-                case 6:
-                    stepFoul();
-                    break;
-                case 7:
-                    stepArrives();
-                    break;
-                case 8:
-                    stepAsk();
-                    break;
-                case 9:
-                case 10:
-                case 11:
-                case 12:
-                    stepPut();
-                    break;
-                case 13:
-                case 14:
-                    same("best", real.best(), model.best());
-                    break;
-                case 15:
-                case 16:
-                    same("mend", real.mend(), model.mend());
-                    break;
-                case 17:
-                case 18:
-                case 19:
-                    same("plan", real.plan(), model.plan());
-                    break;
-                case 20:
-                    same("minutes", real.minutes(), model.minutes());
-                    break;
-                case 21:
-                    stepOpen();
-                    break;
-                default:
-                    stepAsk();
-                    break;
-            }
-            compareAll();
-        }
-
-        void stepTide() {
-            int place = some(0, 11);
-            int level = some(0, 80);
-            same("tide", real.tide(place, level), model.tide(place, level));
-        }
-
-        void stepSet() {
-            int what = some(0, 4);
-            int[] most = {200, 900, 20, 100, 100};
-            int v = some(0, what >= 0 && what < 5 ? most[what] : 10);
-            same("set", real.set(what, v), model.set(what, v));
-        }
-
-        void stepTugs() {
-            int from = some(0, 119);
-            int to = random.nextBoolean() ? some(0, 119) : Math.min(119, Math.abs(from % 120) + pick(0, 30));
-            int v = some(0, random.nextBoolean() ? 3 : 9);
-            same("tugs", real.tugs(from, to, v), model.tugs(from, to, v));
-        }
-
-        void stepFoul() {
-            int a = anyShip();
-            int b = anyShip();
-            boolean is = random.nextInt(3) > 0;
-            same("foul", real.foul(a, b, is), model.foul(a, b, is));
-        }
-
-        void stepArrives() {
-            int ship = anyShip();
-            int hour = some(random.nextBoolean() ? 0 : 110, 119);
-            same("arrives", real.arrives(ship, hour), model.arrives(ship, hour));
-        }
-
-        void stepPut() {
-            int ship = anyShip();
-            int quay = anyQuay();
-            same("put", real.put(ship, quay), model.put(ship, quay));
-        }
-
-        void stepOpen() {
-            int ship = anyShip();
-            int from = some(0, 119);
-            int to = some(0, 119);
-            same("open", real.open(ship, from, to), model.open(ship, from, to));
-        }
-
-        void stepAsk() {
-            int ship = anyShip();
-            int hour = some(0, 119);
-            int how = some(0, 1);
-            same("first", real.first(ship, hour, how), model.first(ship, hour, how));
-            int quay = some(0, 3);
-            same("may", real.may(ship, quay), model.may(ship, quay));
-            int i = some(0, 6);
-            same("parade", real.parade(i), model.parade(i));
-        }
-
-        void compareAll() {
-            for (int what = -1; what <= 6; what++) {
-                same("count " + what, real.count(what), model.count(what));
-            }
-            same("wrong", real.wrong(), model.wrongBerths());
-            for (int ship = -1; ship <= 7; ship++) {
-                same("at " + ship, realAt(ship), model.at(ship));
-                same("in " + ship, real.in(ship), model.in(ship));
-                same("parade " + ship, real.parade(ship), model.parade(ship));
-            }
-            for (int quay = -1; quay <= 4; quay++) {
-                same("left " + quay, real.left(quay), model.left(quay));
-            }
-            same("minutes", real.minutes(), model.minutes());
-        }
-
-        int realAt(int ship) {
-            try {
-                return real.at(ship);
-            } catch (NoSuchElementException e) {
-                return THROWN;
-            }
+                break;
+            case 2:
+                twin.tide(some(0, 11), some(0, 80));
+                break;
+            case 3:
+                stepSet();
+                break;
+            case 4:
+                stepTugs();
+                break;
+            case 5, 6:
+                twin.foul(anyShip(), anyShip(), random.nextInt(3) > 0);
+                break;
+            case 7:
+                twin.arrives(anyShip(), some(random.nextBoolean() ? 0 : 110, 119));
+                break;
+            case 8, 9, 10, 11:
+                twin.put(anyShip(), anyQuay());
+                break;
+            case 12, 13:
+                twin.best();
+                break;
+            case 14, 15:
+                twin.mend();
+                break;
+            case 16, 17, 18:
+                twin.plan();
+                break;
+            case 19, 20:
+                twin.open(anyShip(), some(0, 119), some(0, 119));
+                break;
+            default:
+                twin.first(anyShip(), some(0, 119), some(0, 1));
+                twin.may(anyShip(), some(0, 3));
+                break;
         }
     }
 
-    /** The document's words, taken one by one; ships and quays are rows of the calls' arguments. */
-    private static final class Model {
-        final int[] tide = new int[12];
-        final int[] set = {40, 500, 5, 10, 40};
-        final int[] tugs = new int[120];
-        final int[][] ship = new int[7][];
-        final int[][] quay = new int[4][];
-        final boolean[][] foul = new boolean[7][7];
-        int[] berth = {NONE, NONE, NONE, NONE, NONE, NONE, NONE};
-        int[] kept = {NONE, NONE, NONE, NONE, NONE, NONE, NONE};
-        int ships = 0;
-        int quays = 0;
+    private void stepSet() {
+        int what = some(0, 4);
+        int most = what >= 0 && what < 5 ? Scenes.MOST_SETTINGS[what] : 10;
+        twin.set(what, some(0, most));
+    }
 
-        final boolean[][] allowed = new boolean[7][4];
-        int[] chosen;
-        int[] chosenKey;
-
-        Model() {
-            Arrays.fill(tugs, 2);
-        }
-
-        static boolean ok(int v, int least, int most) {
-            return least <= v && v <= most;
-        }
-
-        boolean tide(int place, int level) {
-            if (!ok(place, 0, 11) || !ok(level, 0, 80)) {
-                return false;
-            }
-            tide[place] = level;
-            return true;
-        }
-
-        int set(int what, int v) {
-            if (!ok(what, 0, 4) || !ok(v, 0, new int[] {200, 900, 20, 100, 100}[what])) {
-                return NONE;
-            }
-            int was = set[what];
-            set[what] = v;
-            return was;
-        }
-
-        boolean tugs(int from, int to, int v) {
-            if (!ok(from, 0, 119) || !ok(to, from, 119) || !ok(v, 0, 9)) {
-                return false;
-            }
-            Arrays.fill(tugs, from, to + 1, v);
-            return true;
-        }
-
-        int ship(int[] s) {
-            int[] least = {1, 1, 1, 0, 0, 0, 1};
-            int[] most = {1200, 120, 700, 100, 3, 119, 60};
-            for (int i = 0; i < 7; i++) {
-                if (!ok(s[i], least[i], most[i])) {
-                    return NONE;
-                }
-            }
-            if (ships == 7) {
-                return NONE;
-            }
-            ship[ships] = s;
-            return ships++;
-        }
-
-        int quay(int[] q) {
-            int[] least = {1, 1, 0, 0, 0};
-            int[] most = {4000, 200, 1, 10, 120};
-            for (int i = 0; i < 5; i++) {
-                if (!ok(q[i], least[i], most[i])) {
-                    return NONE;
-                }
-            }
-            if (quays == 4) {
-                return NONE;
-            }
-            quay[quays] = q;
-            return quays++;
-        }
-
-        boolean foul(int a, int b, boolean is) {
-            if (!ok(a, 0, ships - 1) || !ok(b, 0, ships - 1) || a == b) {
-                return false;
-            }
-            foul[a][b] = is;
-            foul[b][a] = is;
-            return true;
-        }
-
-        int arrives(int s, int hour) {
-            if (!ok(s, 0, ships - 1) || !ok(hour, 0, 119)) {
-                return NONE;
-            }
-            int was = ship[s][5];
-            ship[s][5] = hour;
-            return was;
-        }
-
-        int count(int what) {
-            switch (what) {
-                case 0:
-                    return ships;
-                case 1:
-                    return quays;
-                case 2:
-                    return berthed(berth);
-                case 3:
-                    return show(berth);
-                case 4:
-                    return Arrays.stream(tide).min().getAsInt();
-                case 5:
-                    return Arrays.stream(tide).max().getAsInt();
-                default:
-                    return NONE;
-            }
-        }
-
-        int berthed(int[] b) {
-            int n = 0;
-            for (int s = 0; s < ships; s++) {
-                n += b[s] != NONE ? 1 : 0;
-            }
-            return n;
-        }
-
-        int show(int[] b) {
-            int sum = 0;
-            for (int s = 0; s < ships; s++) {
-                sum += b[s] != NONE ? ship[s][3] * quay[b[s]][3] : 0;
-            }
-            return sum;
-        }
-
-        boolean comes(int s, int hour, boolean pass) {
-            int level = tide[hour % 12];
-            if (set[0] + level < ship[s][1] + set[2]) {
-                return false;
-            }
-            return !pass || ship[s][2] + level + set[2] <= set[1];
-        }
-
-        int first(int s, int hour, int how) {
-            if (!ok(s, 0, ships - 1) || !ok(hour, 0, 119) || !ok(how, 0, 1)) {
-                return NONE;
-            }
-            for (int h = hour; h < 120; h++) {
-                if (comes(s, h, how == 1)) {
-                    return h;
-                }
-            }
-            return NONE;
-        }
-
-        int may(int s, int q) {
-            if (!ok(s, 0, ships - 1) || !ok(q, 0, quays - 1)) {
-                return NONE;
-            }
-            if (quay[q][1] + count(4) < ship[s][1] + set[2]) {
-                return 1;
-            }
-            return first(s, ship[s][5], quay[q][2]) == NONE ? 2 : 0;
-        }
-
-        boolean put(int s, int q) {
-            if (!ok(s, 0, ships - 1) || !ok(q, -1, quays - 1)) {
-                return false;
-            }
-            berth[s] = q;
-            return true;
-        }
-
-        int at(int s) {
-            return ok(s, 0, ships - 1) ? berth[s] : THROWN;
-        }
-
-        int wrongOf(int[] b) {
-            for (int s = 0; s < ships; s++) {
-                if (b[s] != NONE && may(s, b[s]) != 0) {
-                    return 10 + s;
-                }
-            }
-            for (int s = 0; s < ships; s++) {
-                for (int t = 0; t < ships; t++) {
-                    if (b[s] != NONE && b[s] == b[t] && foul[s][t]) {
-                        return 20 + s;
-                    }
-                }
-            }
-            for (int q = 0; q < quays; q++) {
-                if (leftOf(b, q) < 0) {
-                    return 30 + q;
-                }
-            }
-            return 0;
-        }
-
-        int wrongBerths() {
-            return wrongOf(berth);
-        }
-
-        int leftOf(int[] b, int q) {
-            int n = 0;
-            int sum = 0;
-            for (int s = 0; s < ships; s++) {
-                if (b[s] == q) {
-                    n++;
-                    sum += ship[s][0];
-                }
-            }
-            return quay[q][0] - sum - Math.max(0, n - 1) * set[3];
-        }
-
-        int left(int q) {
-            return ok(q, 0, quays - 1) ? leftOf(berth, q) : -9999;
-        }
-
-        int best() {
-            search(false);
-            berth = chosen;
-            return berthed(berth);
-        }
-
-        int mend() {
-            search(true);
-            int n = moved(chosen);
-            berth = chosen;
-            return n;
-        }
-
-        int moved(int[] b) {
-            int n = 0;
-            for (int s = 0; s < ships; s++) {
-                n += b[s] != berth[s] ? 1 : 0;
-            }
-            return n;
-        }
-
-        void search(boolean near) {
-            chosen = null;
-            int[] b = new int[7];
-            Arrays.fill(b, NONE);
-            for (int s = 0; s < ships; s++) {
-                for (int q = 0; q < quays; q++) {
-                    allowed[s][q] = may(s, q) == 0;
-                }
-            }
-            tryShip(0, b, near);
-        }
-
-        /** Quays in their order and none last, so of equal ones the first that is found is due. */
-        void tryShip(int s, int[] b, boolean near) {
-            if (s == ships) {
-                int[] key = {-berthed(b), near ? moved(b) : 0, -show(b)};
-                if (chosen == null || Arrays.compare(key, chosenKey) < 0) {
-                    chosen = b.clone();
-                    chosenKey = key;
-                }
-                return;
-            }
-            for (int q = 0; q <= quays; q++) {
-                b[s] = q == quays ? NONE : q;
-                if (q == quays || joins(s, b)) {
-                    tryShip(s + 1, b, near);
-                }
-            }
-            b[s] = NONE;
-        }
-
-        /** Whether ship s may lie where it does with the ships before it; those behind it are at none yet. */
-        boolean joins(int s, int[] b) {
-            if (!allowed[s][b[s]] || leftOf(b, b[s]) < 0) {
-                return false;
-            }
-            for (int t = 0; t < s; t++) {
-                if (b[t] == b[s] && foul[s][t]) {
-                    return false;
-                }
-            }
-            return true;
-        }
-
-        int planSum;
-
-        int plan() {
-            planSum = Integer.MAX_VALUE;
-            int[] hours = new int[7];
-            Arrays.fill(hours, NONE);
-            tryHour(0, 0, hours);
-            return planSum == Integer.MAX_VALUE ? NONE : planSum;
-        }
-
-        void tryHour(int s, int sum, int[] hours) {
-            if (sum + leastRest(s) >= planSum) {
-                return;
-            }
-            if (s == ships) {
-                planSum = sum;
-                kept = hours.clone();
-                return;
-            }
-            if (berth[s] == NONE) {
-                tryHour(s + 1, sum, hours);
-                return;
-            }
-            // A ship that takes an hour behind so many of its own leaves a free one before it: that is never least.
-            int tries = berthed(berth) + 2;
-            for (int h = ship[s][5]; h < 120 && tries > 0; h++) {
-                tries -= canHave(s, h) ? 1 : 0;
-                boolean free = true;
-                for (int t = 0; t < s; t++) {
-                    free &= hours[t] != h;
-                }
-                if (free && canHave(s, h)) {
-                    hours[s] = h;
-                    tryHour(s + 1, sum + h - ship[s][5], hours);
-                    hours[s] = NONE;
-                }
-            }
-        }
-
-        boolean canHave(int s, int h) {
-            return ship[s][4] <= tugs[h] && comes(s, h, quay[berth[s]][2] == 1);
-        }
-
-        /** What the ships from s on wait at least, each as if alone; enough to cut off hopeless tries. */
-        int leastRest(int s) {
-            int sum = 0;
-            for (int t = s; t < ships; t++) {
-                if (berth[t] != NONE) {
-                    int h = ship[t][5];
-                    while (h < 120 && !canHave(t, h)) {
-                        h++;
-                    }
-                    if (h == 120) {
-                        return 100000000;
-                    }
-                    sum += h - ship[t][5];
-                }
-            }
-            return sum;
-        }
-
-        int in(int s) {
-            return ok(s, 0, ships - 1) ? kept[s] : NONE;
-        }
-
-        int parade(int i) {
-            Integer[] order = new Integer[ships];
-            int n = 0;
-            for (int s = 0; s < ships; s++) {
-                if (berth[s] != NONE) {
-                    order[n++] = s;
-                }
-            }
-            Arrays.sort(order, 0, n, (a, b) -> ship[b][3] - ship[a][3]);
-            return ok(i, 0, n - 1) ? order[i] : NONE;
-        }
-
-        int minutes() {
-            int sum = 0;
-            for (int i = 1; parade(i) != NONE; i++) {
-                sum += Math.max(ship[parade(i - 1)][6], ship[parade(i)][6]);
-            }
-            return sum;
-        }
-
-        int open(int s, int from, int to) {
-            if (!ok(s, 0, ships - 1) || !ok(from, 0, 119) || !ok(to, from, 119) || berth[s] == NONE) {
-                return NONE;
-            }
-            int n = 0;
-            for (int h = from; h <= to; h++) {
-                n += Math.abs(quay[berth[s]][4] - tide[h % 12] - 30) <= set[4] ? 1 : 0;
-            }
-            return n;
-        }
+    private void stepTugs() {
+        int from = some(0, 119);
+        int to = random.nextBoolean() ? some(0, 119) : Math.min(119, Math.abs(from % 120) + pick(0, 30));
+        twin.tugs(from, to, some(0, random.nextBoolean() ? 3 : 9));
     }
 }
